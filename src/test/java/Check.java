@@ -1,0 +1,27 @@
+/** Counts answers that are not as due and prints each; a test's main ends with {@link #end}. */
+final class Check {
+    private static int asked = 0;
+    private static int wrong = 0;
+
+    private Check() {
+    }
+
+    static void due(String what, long got, long want) {
+        asked++;
+        if (got != want) {
+            wrong++;
+            System.out.println(what + " answered " + got + ", due is " + want);
+        }
+    }
+
+    static void due(String what, boolean got, boolean want) {
+        due(what, got ? 1 : 0, want ? 1 : 0);
+    }
+
+    static void end(String test) {
+        System.out.println(test + ": " + asked + " answers asked, " + wrong + " not as due");
+        if (wrong != 0 || asked == 0) {
+            System.exit(1);
+        }
+    }
+}

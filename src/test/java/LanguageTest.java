@@ -1,0 +1,103 @@
+import java.io.IOException;
+import java.lang.reflect.Constructor;
+import java.lang.reflect.Field;
+import java.lang.reflect.Method;
+import java.lang.reflect.Modifier;
+import java.nio.file.Files;
+import java.nio.file.Path;
+import java.util.Set;
+import java.util.TreeSet;
+import java.util.regex.Matcher;
+import java.util.regex.Pattern;
+
+/** The class has the document's face and no more, and keeps those rules of LANGUAGE.md that can be seen from outside. */
+final class LanguageTest {
+    private static final Set<String> FACE = Set.of(
+            "int feed(int,int,int,int,int)", "int text(int,int)", "int beast(int,int,int,int)",
+            "boolean measure(int,int,int)", "int lets(int,int)", "boolean enter(int,int)",
+            "boolean protest(int,int)", "boolean bar(int,int)", "boolean order(int,int)",
+            "int placed(int,int)", "int swaps(int)", "int ring(int,int)", "boolean cut(int,int,int)",
+            "int card(int)", "int reasons(int,int)", "boolean sand(int)", "int hour(int)", "int team(int)",
+            "int price(int)", "int look(int,int)", "int count(int)");
+    private static final Set<String> FORBIDDEN = Set.of("throw", "throws", "try", "catch", "finally", "synchronized",
+            "assert", "volatile", "native", "package", "yield", "hashCode", "Object", "System", "Random", "Thread");
+
+    private LanguageTest() {
+    }
+
+    public static void main(String[] args) throws IOException {
+        face();
+        innerClasses();
+        words(Files.readString(Path.of("src/main/java/CattleShow.java")));
+        Check.end("LanguageTest");
+    }
+
+    private static String signature(Method method) {
+        StringBuilder text = new StringBuilder(method.getReturnType().getName());
+        text.append(' ').append(method.getName()).append('(');
+        Class<?>[] parameters = method.getParameterTypes();
+        for (int i = 0; i < parameters.length; i++) {
+            text.append(i > 0 ? "," : "").append(parameters[i].getName());
+        }
+        return text.append(')').toString();
+    }
+
+    private static void face() {
+        Set<String> seen = new TreeSet<>();
+        for (Method method : CattleShow.class.getDeclaredMethods()) {
+            if (!Modifier.isPrivate(method.getModifiers())) {
+                seen.add(signature(method));
+            }
+        }
+        Check.due("methods of the face: " + seen, seen.equals(FACE), true);
+        Constructor<?>[] made = CattleShow.class.getDeclaredConstructors();
+        Check.due("constructors", made.length, 1);
+        Check.due("public constructor", Modifier.isPublic(made[0].getModifiers()), true);
+        Check.due("constructor's parameters", made[0].getParameterCount(), 0);
+        Check.due("final", Modifier.isFinal(CattleShow.class.getModifiers()), true);
+        for (Field field : CattleShow.class.getDeclaredFields()) {
+            boolean open = !Modifier.isPrivate(field.getModifiers());
+            Check.due("open field " + field.getName(), open, field.getName().equals("NONE"));
+        }
+    }
+
+    private static Set<String> publicNames() {
+        Set<String> names = new TreeSet<>();
+        for (Method method : CattleShow.class.getMethods()) {
+            names.add(method.getName());
+        }
+        return names;
+    }
+
+    private static void innerClasses() {
+        Class<?>[] inside = CattleShow.class.getDeclaredClasses();
+        Check.due("at most twelve classes", inside.length <= 11, true);
+        for (Class<?> inner : inside) {
+            Check.due("static " + inner, Modifier.isStatic(inner.getModifiers()), true);
+            Check.due("not public " + inner, Modifier.isPublic(inner.getModifiers()), false);
+            for (Method method : inner.getDeclaredMethods()) {
+                Check.due("a name of the face: " + method, publicNames().contains(method.getName()), false);
+                Check.due("parameters of " + method, method.getParameterCount() <= 7, true);
+            }
+            for (Field field : inner.getDeclaredFields()) {
+                boolean loose = Modifier.isStatic(field.getModifiers()) && !Modifier.isFinal(field.getModifiers());
+                Check.due("static state " + field, loose, false);
+            }
+        }
+    }
+
+    private static void words(String source) {
+        String code = source.replaceAll("(?s)/\\*.*?\\*/", " ").replaceAll("//[^\n]*", " ");
+        Matcher word = Pattern.compile("[A-Za-z_]+").matcher(code);
+        while (word.find()) {
+            Check.due("the word " + word.group(), FORBIDDEN.contains(word.group()), false);
+        }
+        for (String sign : new String[] {"->", "::", "@", "static {"}) {
+            Check.due("the sign " + sign, code.contains(sign), false);
+        }
+        Matcher brought = Pattern.compile("(?m)^import (.*);$").matcher(code);
+        while (brought.find()) {
+            Check.due("import " + brought.group(1), brought.group(1).equals("java.util.Arrays"), true);
+        }
+    }
+}
