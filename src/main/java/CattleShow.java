@@ -601,17 +601,17 @@ public final class CattleShow {
 
     private static final class ShowClass {
         /** Who is ENTERED, a bit for each BEAST; of so many. */
-        private int entered = 0;
-        private int size = 0;
+        int entered = 0;
+        int size = 0;
         private int out = 0;
         private ClassText asked = new ClassText();
         /** An ORDER keeps who went out after it was told: readers pass over those. */
-        private final int[][] orders = new int[JUDGES][MOST_ENTERED];
+        final int[][] orders = new int[JUDGES][MOST_ENTERED];
         /** How long each JUDGE's ORDER was when it was told; 0 if none counts. */
-        private final int[] orderLengths = new int[JUDGES];
-        private final int[] joined = new int[MOST_ENTERED];
-        private int fewestSwaps = 0;
-        private final int[] cuts = new int[CUTS];
+        final int[] orderLengths = new int[JUDGES];
+        final int[] joined = new int[MOST_ENTERED];
+        int fewestSwaps = 0;
+        final int[] cuts = new int[CUTS];
 
         ShowClass() {
             Arrays.fill(cuts, FIRST_CUT);
@@ -914,7 +914,7 @@ public final class CattleShow {
     private static final class Timetable {
         /** The HANDLERS of each CLASS, a bit for each: 0 if it has no BEASTS, and so no HOUR. */
         private final int[] handlers = new int[CLASSES];
-        private final int[] hours = new int[CLASSES];
+        final int[] hours = new int[CLASSES];
         private final int[] busyHandlers = new int[CLASSES];
         private final int[] busyRings = new int[CLASSES];
 

@@ -185,6 +185,10 @@ final class PromiseTest {
         Check.due("3: empty text", show.text(0, 0), 0);
         Check.due("3: the tape is empty after an empty text", show.count(2), 0);
         Check.due("3: empty text lets all in", show.lets(0, 0), 1);
+        Tapes.text(show, 1, "b3;f99;t0;m0>5;m1<0;x");
+        Check.due("3: nothing of a faulty text is left in the next one", Tapes.text(show, 1, "b01"), 0);
+        Check.due("3: nothing of a faulty text is left in the next one", show.lets(1, 0), 1);
+        Check.due("3: nothing of a faulty text is left in the next one", show.lets(1, 1), 1);
         String whole = "f0;f1;f2;f3;m0<9999;m0<9999;m0<9999;m0<9999";
         Tapes.feedAll(show, Tapes.bytesOf(whole + "                                     "));
         Check.due("3: eighty bytes", show.count(2), 80);
@@ -590,6 +594,8 @@ final class PromiseTest {
         dueReasons("a>b:0;b>c:0;b>a:0", -312);
         dueReasons("a>b:0;b>b:0", -208);
         CattleShow show = showForReasons();
+        Check.due("16: points of these reasons", Tapes.reasons(show, 0, "a>b:00"), 4);
+        Check.due("16: points of these reasons alone", Tapes.reasons(show, 0, "a>b:0"), 2);
         Tapes.feedAll(show, Tapes.bytesOf("a>b:0"));
         Check.due("16: no such class", show.reasons(6, 5), -1);
         Check.due("16: no such class below", show.reasons(-1, 5), -1);
@@ -684,6 +690,12 @@ final class PromiseTest {
         Check.due("19: places behind others", show.team(9), 4 + 5 + 6);
         show.protest(0, 1);
         Check.due("19: moved up", show.team(9), 3 + 4 + 5);
+        CattleShow full = new CattleShow();
+        for (int b = 0; b < 8; b++) {
+            full.beast(0, 0, b < 5 ? 0 : 1, 0);
+            full.enter(0, b);
+        }
+        Check.due("19: the last places", full.team(1), 6 + 7 + 8);
     }
 
     private static void price() {
