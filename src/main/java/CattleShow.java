@@ -23,6 +23,7 @@ public final class CattleShow {
 
     private static final int MOST_CLAUSES = 8;
     private static final int MOST_DIGITS = 4;
+    private static final int HIGHEST_NUMBER = 9999;
     private static final int MOST_TERMS = 4;
 
     private static final int MISPLACED = 1;
@@ -517,7 +518,7 @@ public final class CattleShow {
         private void letAll() {
             breeds = ALL_BREEDS;
             Arrays.fill(least, 0);
-            Arrays.fill(most, Integer.MAX_VALUE);
+            Arrays.fill(most, HIGHEST_NUMBER);
         }
 
         private boolean isWithin(int span, int n) {
@@ -709,6 +710,8 @@ public final class CattleShow {
     /** Joins the ORDERS of one CLASS after another; its rows are kept so that no join makes new ones. */
     private static final class Joiner {
         private static final int SETS = 1 << MOST_ENTERED;
+        /** More than any row can have. */
+        private static final int MORE_SWAPS = JUDGES * MOST_ENTERED * MOST_ENTERED;
 
         /** Who is ENTERED, by numbers; below, each one stands under its slot in this row. */
         private final int[] members = new int[MOST_ENTERED];
@@ -794,7 +797,7 @@ public final class CattleShow {
 
         private void findFewest() {
             for (int set = 1; set < 1 << size; set++) {
-                int least = Integer.MAX_VALUE;
+                int least = MORE_SWAPS;
                 for (int b = 0; b < size; b++) {
                     if ((set & 1 << b) != 0) {
                         least = Math.min(least, swapsWithFirst(set, b));

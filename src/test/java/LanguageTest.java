@@ -21,6 +21,8 @@ final class LanguageTest {
             "int price(int)", "int look(int,int)", "int count(int)");
     private static final Set<String> FORBIDDEN = Set.of("throw", "throws", "try", "catch", "finally", "synchronized",
             "assert", "volatile", "native", "package", "yield", "hashCode", "Object", "System", "Random", "Thread");
+    /** All of the library that the class uses; rule 4 lists what it could use. */
+    private static final Set<String> LIBRARY = Set.of("Arrays", "Arrays.fill", "Math.max", "Math.min", "Integer.bitCount");
 
     private LanguageTest() {
     }
@@ -94,6 +96,10 @@ final class LanguageTest {
         }
         for (String sign : new String[] {"->", "::", "@", "static {"}) {
             Check.due("the sign " + sign, code.contains(sign), false);
+        }
+        Matcher library = Pattern.compile("\\b(?:Integer|Long|Math|Arrays|System|String|StringBuilder|List)\\b[.\\w]*").matcher(code);
+        while (library.find()) {
+            Check.due("of the library " + library.group(), LIBRARY.contains(library.group()), true);
         }
         Matcher brought = Pattern.compile("(?m)^import (.*);$").matcher(code);
         while (brought.find()) {

@@ -37,30 +37,6 @@ final class PromiseTest {
         Check.end("PromiseTest");
     }
 
-    /** A show with so many plain BEASTS, the handler and the sire of each its number (to 9). */
-    private static CattleShow showOf(int beasts) {
-        CattleShow show = new CattleShow();
-        for (int b = 0; b < beasts; b++) {
-            show.beast(b % 4, 10 * b, b % 10, b % 10);
-        }
-        return show;
-    }
-
-    private static CattleShow showWithClass(int beasts) {
-        CattleShow show = showOf(beasts);
-        for (int b = 0; b < beasts; b++) {
-            show.enter(0, b);
-        }
-        return show;
-    }
-
-    private static void dueRow(String what, CattleShow show, int c, int... row) {
-        for (int i = 0; i < row.length; i++) {
-            Check.due(what + ", place " + (i + 1), show.placed(c, i + 1), row[i]);
-        }
-        Check.due(what + ", behind the last", show.placed(c, row.length + 1), -1);
-    }
-
     private static void dueText(String text, int want) {
         Check.due("1/3: text '" + text + "'", Tapes.text(new CattleShow(), 0, text), want);
     }
@@ -95,10 +71,10 @@ final class PromiseTest {
         }
         Check.due("2: full", show.feed(0, 0, 0, 0, 0), -1);
         Check.due("2: stays", show.count(2), 80);
-        show = showWithClass(20);
+        show = Shows.withClass(20);
         show.feed(0x07060504, 0x03020100, -1, -1, -1);
         Check.due("2: highest byte first", show.order(0, 0), true);
-        dueRow("2: order as fed", show, 0, 7, 6, 5, 4, 3, 2, 1, 0);
+        Shows.dueRow("2: order as fed", show, 0, 7, 6, 5, 4, 3, 2, 1, 0);
         show.feed(' ' << 24 | ' ' << 16 | ' ' << 8 | ' ', 0, 0, 0, 0);
         show.feed('b' << 24, 0, 0, 0, 0);
         Check.due("2: behind what is there", show.text(0, 20), 100);
@@ -164,7 +140,7 @@ final class PromiseTest {
     }
 
     private static void textAndTape() {
-        CattleShow show = showOf(2);
+        CattleShow show = Shows.of(2);
         Tapes.feedAll(show, Tapes.bytesOf("b1"));
         Check.due("3: no such class", show.text(6, 2), -1);
         Check.due("3: no such class below", show.text(-1, 2), -1);
@@ -218,7 +194,7 @@ final class PromiseTest {
     }
 
     private static void measure() {
-        CattleShow show = showOf(2);
+        CattleShow show = Shows.of(2);
         Check.due("5: no such beast", show.measure(2, 0, 1), false);
         Check.due("5: no such beast below", show.measure(-1, 0, 1), false);
         Check.due("5: no such measure", show.measure(0, 3, 1), false);
@@ -271,7 +247,7 @@ final class PromiseTest {
         dueLets("m2>98;m2<100;m0>1;f1;t100;b2", 1);
         dueLets("m2>99", 0);
         dueLets("m2<9999", 1);
-        CattleShow show = showOf(1);
+        CattleShow show = Shows.of(1);
         Check.due("6: no such class", show.lets(6, 0), -1);
         Check.due("6: no such class below", show.lets(-1, 0), -1);
         Check.due("6: no such beast", show.lets(0, 1), -1);
@@ -279,7 +255,7 @@ final class PromiseTest {
     }
 
     private static void enter() {
-        CattleShow show = showOf(12);
+        CattleShow show = Shows.of(12);
         Check.due("7: no such class", show.enter(6, 0), false);
         Check.due("7: no such class below", show.enter(-1, 0), false);
         Check.due("7: no such beast", show.enter(0, 12), false);
@@ -308,7 +284,7 @@ final class PromiseTest {
     }
 
     private static void protest() {
-        CattleShow show = showWithClass(3);
+        CattleShow show = Shows.withClass(3);
         Check.due("8: no such class", show.protest(6, 0), false);
         Check.due("8: no such class below", show.protest(-1, 0), false);
         Check.due("8: no such beast", show.protest(0, 3), false);
@@ -320,13 +296,13 @@ final class PromiseTest {
         Check.due("8: is out", show.protest(0, 0), false);
         Check.due("8: for good", show.enter(0, 0), false);
         Check.due("8: stays in others", show.look(0, 11), 1);
-        dueRow("8: who stands behind moves up", show, 0, 1, 2);
+        Shows.dueRow("8: who stands behind moves up", show, 0, 1, 2);
         Check.due("8: is not entered", show.look(0, 10), -1);
         Check.due("8: fewer", show.count(10), 2);
     }
 
     private static void bar() {
-        CattleShow show = showWithClass(3);
+        CattleShow show = Shows.withClass(3);
         Check.due("9: no such judge", show.bar(6, 0), false);
         Check.due("9: no such judge below", show.bar(-1, 0), false);
         Check.due("9: no such beast", show.bar(0, 3), false);
@@ -337,16 +313,16 @@ final class PromiseTest {
         Check.due("9: of another beast", show.bar(0, 2), true);
         Check.due("9: another judge", show.bar(1, 1), true);
         Check.due("9: orders told before stay", show.count(20), 1);
-        dueRow("9: orders told before stay", show, 0, 2, 1, 0);
+        Shows.dueRow("9: orders told before stay", show, 0, 2, 1, 0);
         Check.due("9: can tell none", Tapes.order(show, 0, 0, 0, 1, 2), false);
-        dueRow("9: the former stays", show, 0, 2, 1, 0);
+        Shows.dueRow("9: the former stays", show, 0, 2, 1, 0);
         show.protest(0, 1);
         show.protest(0, 2);
         Check.due("9: not from who is left", Tapes.order(show, 0, 0, 0), true);
     }
 
     private static void order() {
-        CattleShow show = showWithClass(3);
+        CattleShow show = Shows.withClass(3);
         Check.due("10: no bytes", show.order(0, 0), false);
         Tapes.feedAll(show, 2, 0, 1);
         Check.due("10: no such judge", show.order(6, 0), false);
@@ -357,7 +333,7 @@ final class PromiseTest {
         Check.due("10: the tape stays", show.count(2), 20);
         Check.due("10: told", show.order(0, 0), true);
         Check.due("10: the tape is empty", show.count(2), 0);
-        dueRow("10: told", show, 0, 2, 0, 1);
+        Shows.dueRow("10: told", show, 0, 2, 0, 1);
         show.bar(1, 0);
         Check.due("10: barred without bytes", show.order(1, 0), false);
         Check.due("10: barred", Tapes.order(show, 1, 0, 0, 1, 2), false);
@@ -368,18 +344,18 @@ final class PromiseTest {
         Check.due("10: no beast by a shift", Tapes.order(show, 0, 0, 32, 1, 2), false);
         Check.due("10: no beast by a shift", Tapes.order(show, 0, 0, 0, 1, 2 + 32), false);
         Check.due("10: 255", Tapes.order(show, 0, 0, 0, 1, 255), false);
-        dueRow("10: the former stays", show, 0, 2, 0, 1);
+        Shows.dueRow("10: the former stays", show, 0, 2, 0, 1);
         Check.due("10: told anew", Tapes.order(show, 0, 0, 1, 0, 2, 99, 99), true);
-        dueRow("10: told anew", show, 0, 1, 0, 2);
+        Shows.dueRow("10: told anew", show, 0, 1, 0, 2);
         Check.due("10: one for each judge", show.count(20), 1);
     }
 
     private static void orderAndChanges() {
-        CattleShow show = showWithClass(4);
+        CattleShow show = Shows.withClass(4);
         Tapes.order(show, 0, 0, 3, 2, 1, 0);
         show.protest(0, 2);
         Check.due("10: counts still", show.count(20), 1);
-        dueRow("10: who is out is left out", show, 0, 3, 1, 0);
+        Shows.dueRow("10: who is out is left out", show, 0, 3, 1, 0);
         Check.due("10: as many as are left", Tapes.order(show, 1, 0, 3, 0, 1), true);
         Check.due("10: both count", show.count(20), 2);
         Check.due("10: swaps of both", show.swaps(0), 1);
@@ -388,7 +364,7 @@ final class PromiseTest {
         Check.due("10: a refused entry ends none", show.count(20), 2);
         show.enter(0, 4);
         Check.due("10: no more once one is entered", show.count(20), 0);
-        dueRow("10: without orders by numbers", show, 0, 0, 1, 3, 4);
+        Shows.dueRow("10: without orders by numbers", show, 0, 0, 1, 3, 4);
         Tapes.order(show, 0, 0, 0, 1, 4, 3);
         show.enter(1, 0);
         Check.due("10: entries of other classes end none", show.count(20), 1);
@@ -403,28 +379,28 @@ final class PromiseTest {
     }
 
     private static void placed() {
-        CattleShow show = showWithClass(4);
+        CattleShow show = Shows.withClass(4);
         Check.due("11: no such class", show.placed(6, 1), -1);
         Check.due("11: no such class below", show.placed(-1, 1), -1);
         Check.due("11: place 0", show.placed(0, 0), -1);
         Check.due("11: below", show.placed(0, -1), -1);
         Check.due("11: empty class", show.placed(1, 1), -1);
-        dueRow("11: without orders", show, 0, 0, 1, 2, 3);
+        Shows.dueRow("11: without orders", show, 0, 0, 1, 2, 3);
         Tapes.order(show, 0, 0, 1, 0, 2, 3);
-        dueRow("11: one order", show, 0, 1, 0, 2, 3);
+        Shows.dueRow("11: one order", show, 0, 1, 0, 2, 3);
         Tapes.order(show, 1, 0, 3, 2, 0, 1);
-        dueRow("11: the least of like ones", show, 0, 0, 1, 2, 3);
+        Shows.dueRow("11: the least of like ones", show, 0, 0, 1, 2, 3);
         Tapes.order(show, 2, 0, 3, 2, 0, 1);
-        dueRow("11: by most", show, 0, 3, 2, 0, 1);
-        CattleShow high = showOf(20);
+        Shows.dueRow("11: by most", show, 0, 3, 2, 0, 1);
+        CattleShow high = Shows.of(20);
         high.enter(5, 19);
         high.enter(5, 7);
         high.enter(5, 13);
-        dueRow("11: by numbers, not by entry", high, 5, 7, 13, 19);
+        Shows.dueRow("11: by numbers, not by entry", high, 5, 7, 13, 19);
     }
 
     private static void swaps() {
-        CattleShow show = showWithClass(4);
+        CattleShow show = Shows.withClass(4);
         Check.due("12: no such class", show.swaps(6), -1);
         Check.due("12: no such class below", show.swaps(-1), -1);
         Check.due("12: empty class", show.swaps(1), 0);
@@ -440,7 +416,7 @@ final class PromiseTest {
     }
 
     private static void ring() {
-        CattleShow show = showWithClass(5);
+        CattleShow show = Shows.withClass(5);
         Check.due("13: no orders", show.ring(0, 0), -1);
         Tapes.order(show, 0, 0, 4, 2, 3, 0, 1);
         Check.due("13: one order", show.ring(0, 0), -1);
@@ -457,7 +433,7 @@ final class PromiseTest {
         Check.due("13: other class", show.ring(1, 0), -1);
         Tapes.order(show, 3, 0, 2, 4, 3, 1, 0);
         Check.due("13: as often behind as ahead is not ahead", show.ring(0, 0), -1);
-        CattleShow other = showWithClass(3);
+        CattleShow other = Shows.withClass(3);
         Tapes.order(other, 0, 0, 0, 2, 1);
         Tapes.order(other, 1, 0, 2, 1, 0);
         Tapes.order(other, 2, 0, 1, 0, 2);
@@ -470,7 +446,7 @@ final class PromiseTest {
     }
 
     private static void cut() {
-        CattleShow show = showWithClass(4);
+        CattleShow show = Shows.withClass(4);
         Check.due("14: no such class", show.cut(6, 1, 1), false);
         Check.due("14: no such class below", show.cut(-1, 1, 1), false);
         Check.due("14: no such place", show.cut(0, 0, 1), false);
@@ -493,7 +469,7 @@ final class PromiseTest {
     }
 
     private static void card() {
-        CattleShow show = showWithClass(6);
+        CattleShow show = Shows.withClass(6);
         Check.due("15: no bytes", show.card(0), -1);
         Tapes.feedAll(show, 0, 1, 2, 3);
         Check.due("15: no such class", show.card(6), -1);
@@ -528,7 +504,7 @@ final class PromiseTest {
 
     /** Places 1, 2, 3 are beasts 2, 1, 0, with measure 0: 30, 20, 10; 1: all 5; 2: 1, 2, 3. */
     private static CattleShow showForReasons() {
-        CattleShow show = showWithClass(3);
+        CattleShow show = Shows.withClass(3);
         Tapes.order(show, 0, 0, 2, 1, 0);
         for (int b = 0; b < 3; b++) {
             show.measure(b, 0, 10 + 10 * b);
@@ -603,7 +579,7 @@ final class PromiseTest {
         Check.due("16: below none", show.reasons(0, -1), -1);
         Check.due("16: the tape stays", show.count(2), 20);
         Check.due("16: an empty class has no place", show.reasons(1, 5), -200);
-        CattleShow eight = showWithClass(8);
+        CattleShow eight = Shows.withClass(8);
         eight.measure(0, 0, 1);
         Check.due("16: eight places", Tapes.reasons(eight, 0, "a>h:0"), 2);
         eight.protest(0, 5);
@@ -622,31 +598,25 @@ final class PromiseTest {
         }
     }
 
-    private static void dueHours(CattleShow show, int... hours) {
-        for (int c = 0; c < hours.length; c++) {
-            Check.due("18: hour of class " + c, show.hour(c), hours[c]);
-        }
-    }
-
     private static void hour() {
-        CattleShow show = showOf(12);
+        CattleShow show = Shows.of(12);
         Check.due("18: no such class", show.hour(6), -1);
         Check.due("18: no such class below", show.hour(-1), -1);
-        dueHours(show, -1, -1, -1, -1, -1, -1);
+        Shows.dueHours(show, -1, -1, -1, -1, -1, -1);
         show.enter(1, 0);
         show.enter(2, 1);
         show.enter(4, 2);
-        dueHours(show, -1, 0, 0, -1, 1, -1);
+        Shows.dueHours(show, -1, 0, 0, -1, 1, -1);
         show.sand(3);
-        dueHours(show, -1, 0, 0, -1, 0, -1);
+        Shows.dueHours(show, -1, 0, 0, -1, 0, -1);
         show.sand(1);
-        dueHours(show, -1, 0, 1, -1, 2, -1);
+        Shows.dueHours(show, -1, 0, 1, -1, 2, -1);
         show.sand(3);
         show.enter(5, 10);
-        dueHours(show, -1, 0, 0, -1, 0, 1);
+        Shows.dueHours(show, -1, 0, 0, -1, 0, 1);
         show.protest(5, 10);
-        dueHours(show, -1, 0, 0, -1, 0, -1);
-        CattleShow late = showOf(10);
+        Shows.dueHours(show, -1, 0, 0, -1, 0, -1);
+        CattleShow late = Shows.of(10);
         // Classes 0, 1 in one hour would leave 2 and 3 three hours in all: they can't go together,
         // and neither goes with both.
         late.enter(0, 0);
@@ -655,13 +625,13 @@ final class PromiseTest {
         late.enter(2, 2);
         late.enter(3, 1);
         late.enter(3, 2);
-        dueHours(late, 0, 1, 1, 0, -1, -1);
+        Shows.dueHours(late, 0, 1, 1, 0, -1, -1);
         Check.due("18: last", late.count(3), 1);
-        CattleShow same = showOf(1);
+        CattleShow same = Shows.of(1);
         for (int c = 0; c < 6; c++) {
             same.enter(c, 0);
         }
-        dueHours(same, 0, 1, 2, 3, 4, 5);
+        Shows.dueHours(same, 0, 1, 2, 3, 4, 5);
     }
 
     private static void team() {
@@ -699,7 +669,7 @@ final class PromiseTest {
     }
 
     private static void price() {
-        CattleShow show = showWithClass(8);
+        CattleShow show = Shows.withClass(8);
         int[] prices = {150, 125, 116, 112, 110, 108, 107, 106};
         for (int b = 0; b < 8; b++) {
             Check.due("20: price of place " + (b + 1), show.price(b), prices[b]);
@@ -741,7 +711,7 @@ final class PromiseTest {
     }
 
     private static void count() {
-        CattleShow show = showWithClass(5);
+        CattleShow show = Shows.withClass(5);
         Tapes.order(show, 0, 0, 0, 1, 2, 3, 4);
         Tapes.order(show, 5, 0, 0, 1, 2, 3, 4);
         Tapes.feedAll(show, 0);
@@ -764,7 +734,7 @@ final class PromiseTest {
 
     private static void strangeNumbers() {
         for (int n : new int[] {LOW, LOW + 1, -100, -32, 32, 64, 100, HIGH - 1, HIGH}) {
-            CattleShow show = showWithClass(2);
+            CattleShow show = Shows.withClass(2);
             Tapes.feedAll(show, 0, 1);
             long sum = 0;
             sum += show.text(n, 0) + show.text(0, n) + show.beast(n, 0, 0, 0) + show.beast(0, 0, n, 0);
