@@ -270,6 +270,11 @@ final class EdgeTest {
                 Check.due("it was told", show.bar(j, b), false);
             }
         }
+        for (int j = 0; j < 6; j++) {
+            for (int b = 0; b < 20; b++) {
+                Check.due("it was told long ago", show.bar(j, b), false);
+            }
+        }
         Check.about("(ORDERS told before stay.)");
         show = Shows.withClass(2);
         Tapes.order(show, 0, 0, 1, 0);

@@ -651,6 +651,20 @@ final class TermsTest {
             show.enter(2, 2);
             Shows.dueHours(show, 0, 1, 0, -1, -1, -1);
         }
+        CattleShow third = Shows.of(10);
+        third.sand(3);
+        Shows.enterAll(third, 0, 0);
+        Shows.enterAll(third, 1, 1);
+        Shows.enterAll(third, 2, 2, 3, 4, 5, 6, 7, 8, 9);
+        Shows.dueHours(third, 0, 0, 0, -1, -1, -1);
+        third.protest(2, 9);
+        Shows.enterAll(third, 2, 0);
+        Shows.dueHours(third, 0, 0, 1, -1, -1, -1);
+        third.protest(2, 0);
+        Shows.enterAll(third, 2, 1);
+        Shows.dueHours(third, 0, 0, 1, -1, -1, -1);
+        third.protest(2, 1);
+        Shows.dueHours(third, 0, 0, 0, -1, -1, -1);
         CattleShow same = Shows.of(8);
         for (int c = 0; c < 6; c++) {
             Shows.enterAll(same, c, 0, 1, 2, 3, 4, 5, 6, 7);
