@@ -28,9 +28,12 @@ final class LanguageTest {
     }
 
     public static void main(String[] args) throws IOException {
+        String source = Files.readString(Path.of("src/main/java/CattleShow.java"));
         face();
+        methodsAndFields(CattleShow.class);
         innerClasses();
-        words(Files.readString(Path.of("src/main/java/CattleShow.java")));
+        lengths(source);
+        words(source);
         Check.end("LanguageTest");
     }
 
@@ -77,15 +80,35 @@ final class LanguageTest {
         for (Class<?> inner : inside) {
             Check.due("static " + inner, Modifier.isStatic(inner.getModifiers()), true);
             Check.due("not public " + inner, Modifier.isPublic(inner.getModifiers()), false);
-            for (Method method : inner.getDeclaredMethods()) {
-                Check.due("a name of the face: " + method, publicNames().contains(method.getName()), false);
-                Check.due("parameters of " + method, method.getParameterCount() <= 7, true);
-            }
-            for (Field field : inner.getDeclaredFields()) {
-                boolean loose = Modifier.isStatic(field.getModifiers()) && !Modifier.isFinal(field.getModifiers());
-                Check.due("static state " + field, loose, false);
-            }
+            methodsAndFields(inner);
         }
+    }
+
+    private static void methodsAndFields(Class<?> owner) {
+        for (Method method : owner.getDeclaredMethods()) {
+            boolean ofFace = owner == CattleShow.class && Modifier.isPublic(method.getModifiers());
+            Check.due("a name of the face: " + method, publicNames().contains(method.getName()), ofFace);
+            Check.due("parameters of " + method, method.getParameterCount() <= 7, true);
+        }
+        int fields = 0;
+        for (Field field : owner.getDeclaredFields()) {
+            boolean isStatic = Modifier.isStatic(field.getModifiers());
+            Check.due("static state " + field, isStatic && !Modifier.isFinal(field.getModifiers()), false);
+            fields += isStatic ? 0 : 1;
+        }
+        Check.due("at most twenty fields in " + owner, fields <= 20, true);
+    }
+
+    /** A method begins at a line that ends its head and goes on to the brace that stands as far in as the head. */
+    private static void lengths(String source) {
+        Matcher method = Pattern.compile("(?ms)^( +)(?! )[^\n;=]*\\) \\{\n.*?^\\1\\}$").matcher(source);
+        int methods = 0;
+        while (method.find()) {
+            long lines = method.group().lines().count();
+            Check.due("lines of " + method.group().lines().findFirst().orElse("").trim(), lines <= 60, true);
+            methods++;
+        }
+        Check.due("methods were found", methods > FACE.size(), true);
     }
 
     private static void words(String source) {
